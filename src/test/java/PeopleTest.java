@@ -127,6 +127,11 @@ public final class PeopleTest {
         Due.is("6: none", x.personTold(0, 5), NONE);
         Due.is("6: none", x.personTold(0, 6), NONE);
         Due.is("6: none twice", x.stand(0, -1, 5000), NONE);
+        x.stand(1, 0, 0);
+        Due.is("6: for 0", x.personTold(1, 5), 0);
+        Due.is("6: till 0", x.personTold(1, 6), 0);
+        x.days(5);
+        Due.is("6: for whom they were, as told latest", x.stand(1, -1, 0), 0);
     }
 
     private static void step() {
@@ -152,6 +157,8 @@ public final class PeopleTest {
         x.step(7, 9, 1);
         Due.is("8: no paper", x.stepTold(0, 0), NONE);
         Due.is("8: paper", x.stepTold(1, 0), 7);
+        x.step(0, 0, 1);
+        Due.is("8: paper 0", x.stepTold(2, 0), 0);
         Due.is("8: least", x.stepTold(0, 1), 5);
         Due.is("8: minutes", x.stepTold(0, 2), 60);
         Due.is("8: open", x.stepTold(0, 3), NONE);
@@ -159,12 +166,15 @@ public final class PeopleTest {
         Due.is("8: none may", x.stepTold(1, 4), 0);
         x.sign(0, 1);
         Due.is("8: signed", x.stepTold(0, 3), 1);
+        x.paper(0, 0, true);
+        x.sign(2, 0);
+        Due.is("8: signed by 0", x.stepTold(2, 3), 0);
         Due.is("8: how many may, signed too", x.stepTold(0, 4), 2);
         x.away(1, 0, 0);
         Due.is("8: one is away", x.stepTold(0, 4), 1);
         Due.is("8: what 5", x.stepTold(0, 5), BAD);
         Due.is("8: what -1", x.stepTold(0, -1), BAD);
-        Due.is("8: step 2", x.stepTold(2, 0), BAD);
+        Due.is("8: step 3", x.stepTold(3, 0), BAD);
         Due.is("8: step -1", x.stepTold(-1, 0), BAD);
     }
 
@@ -200,6 +210,10 @@ public final class PeopleTest {
         Due.text(x, "may d>5&o=2&r=4&k=0");
         Due.is("10: by the text not", x.may(0, 0, 5), 0);
         Due.is("10: by the text", x.may(0, 0, 6), 1);
+        Due.text(x, "may k<1");
+        Due.is("10: by the step's number", x.may(0, 0, 5), 1);
+        Due.text(x, "may k");
+        Due.is("10: by the step's number", x.may(0, 0, 5), 0);
         Due.text(x, "may 0-3");
         Due.is("10: what is not 0", x.may(0, 0, 5), 1);
         Due.is("10: day -1", x.may(0, 0, -1), BAD);

@@ -19,6 +19,7 @@ public final class SheetsTest {
         images();
         backTakesAll();
         imageStaysAsItIs();
+        fullLogComesBack();
         count();
         Due.end("SheetsTest");
     }
@@ -144,6 +145,8 @@ public final class SheetsTest {
         Due.is("45: it held a sheet", x.lay(0, 3, MIN), 2);
         Due.is("45: it held a number", x.lay(0, 0, 99), 3);
         Due.is("45: it held nothing", x.lay(0, 0, 0), 0);
+        Due.is("45: the last slot", x.lay(4, 3, 8), 0);
+        Due.is("45: the last slot", x.rest(4, 5), 3);
     }
 
     private static void ask() {
@@ -370,6 +373,32 @@ public final class SheetsTest {
         x.back();
         Due.is("51: one way", x.ways(0), 1);
         Due.is("51: no texts", x.count(4), 0);
+    }
+
+    private static void fullLogComesBack() {
+        WhoSigns x = new WhoSigns();
+        for (int p = 0; p < 7; p++) {
+            x.person(0, 0, 0);
+        }
+        for (int s = 0; s < 6; s++) {
+            x.step(-1, 0, 1);
+        }
+        for (int k = 0; k < 30; k++) {
+            x.sign(k % 6, k % 7);
+            x.over();
+            x.days(1);
+        }
+        x.keep();
+        for (int k = 0; k < 40; k++) {
+            x.sign(0, 0);
+            x.over();
+        }
+        x.back();
+        for (int i = 0; i < 30; i++) {
+            Due.is("52: day of " + i, x.log(i, 0), i);
+            Due.is("52: step of " + i, x.log(i, 1), i % 6);
+            Due.is("52: person of " + i, x.log(i, 2), i % 7);
+        }
     }
 
     private static void count() {

@@ -10,6 +10,7 @@ public final class SignaturesTest {
         queueByWait();
         queueInRounds();
         log();
+        logGoesOn();
         audit();
         seed();
         luck();
@@ -80,6 +81,8 @@ public final class SignaturesTest {
         Due.is("35: the first", x.judge(), 1);
         x.drop(1);
         Due.is("35: the next", x.judge(), 1);
+        x.drop(0);
+        Due.is("35: rule 0", x.judge(), 0);
         x.over();
         Due.is("35: nobody signed", x.judge(), NONE);
     }
@@ -187,6 +190,21 @@ public final class SignaturesTest {
         Due.is("37: not so many", x.log(30, 0), NONE);
     }
 
+    private static void logGoesOn() {
+        WhoSigns x = office(7, 6);
+        for (int k = 0; k < 50; k++) {
+            x.sign(k % 6, k % 7);
+            x.over();
+            x.days(1);
+        }
+        for (int i = 0; i < 30; i++) {
+            int k = i + 20;
+            Due.is("37: day of " + i, x.log(i, 0), k);
+            Due.is("37: step of " + i, x.log(i, 1), k % 6);
+            Due.is("37: person of " + i, x.log(i, 2), k % 7);
+        }
+    }
+
     private static void audit() {
         WhoSigns x = office(2, 3);
         Due.is("38: none", x.audit(-1), 0);
@@ -222,6 +240,8 @@ public final class SignaturesTest {
         Due.is("40: 0", x.luck(0), BAD);
         Due.is("40: 61", x.luck(61), BAD);
         Due.is("40: z stays", x.count(11), 1);
+        Due.is("40: one trial, two of three are missing", x.luck(1), 0);
+        Due.is("40: z of one trial", x.seed(1), draws(1, 3));
         int z = 1;
         int lucky = 0;
         for (int trial = 0; trial < 60; trial++) {
@@ -239,5 +259,12 @@ public final class SignaturesTest {
         WhoSigns y = office(1, 1);
         y.sign(0, 0);
         Due.is("40: signed", y.luck(60), 60);
+    }
+
+    private static int draws(int z, int many) {
+        for (int k = 0; k < many; k++) {
+            z = z * 1103515245 + 12345;
+        }
+        return z;
     }
 }

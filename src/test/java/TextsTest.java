@@ -72,6 +72,11 @@ public final class TextsTest {
         fault("ma", 0);
         fault(" mays 1", 1);
         fault("mayk", 0);
+        fault("mayz 1", 0);
+        fault("amay 1", 0);
+        fault("may 1{", 5);
+        fault("may 1`", 5);
+        fault("may 1:2", 5);
         fault("May 1", 0);
         fault("1", 0);
         fault("may", 3);
@@ -165,6 +170,10 @@ public final class TextsTest {
         worth("5|0", 1);
         worth("1<2", 1);
         worth("2<1", 0);
+        worth("1<1", 0);
+        worth("1>1", 0);
+        worth("(0|1)*3", 3);
+        worth("(1<2)+(2>1)", 2);
         worth("2>1", 1);
         worth("1=1", 1);
         worth("1+1=2", 1);
@@ -204,6 +213,7 @@ public final class TextsTest {
             Due.is("22: none", x.why(key), NONE);
         }
         Due.text(x, "wait 1");
+        Due.is("22: text 0", x.why(2), 0);
         Due.text(x, "may 0");
         Due.text(x, "wait 2");
         Due.text(x, "wait");

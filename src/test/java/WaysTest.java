@@ -85,9 +85,30 @@ public final class WaysTest {
         Due.is("24: none", x.way(0, -1), NONE);
         Due.is("24: none", x.way(1, 1), NONE);
         Due.is("24: bad ahead of none", x.way(1, 3), BAD);
+        cheapestAnew();
         WhoSigns y = office(2, 6);
         Due.text(y, "cost 9999");
         Due.is("24: the dearest", y.way(1, -1), 6 * 9999);
+    }
+
+    /** What an earlier call found dear must not stand in the way of a later one. */
+    private static void cheapestAnew() {
+        WhoSigns x = new WhoSigns();
+        x.person(0, 5, 0);
+        x.person(0, 1, 0);
+        x.step(-1, 0, 1);
+        x.keep();
+        x.step(-1, 0, 60);
+        x.step(-1, 0, 60);
+        Due.text(x, "cost 999*m");
+        Due.is("24: dear", x.way(1, -1), 999 + 2 * 9999);
+        Due.text(x, "cost r");
+        Due.is("24: cheap", x.way(1, -1), 3);
+        Due.text(x, "cost 999*m");
+        Due.is("24: dear again", x.way(1, -1), 999 + 2 * 9999);
+        x.back();
+        Due.is("24: one step", x.way(1, -1), 2);
+        Due.is("24: one step", x.way(1, 0), 1);
     }
 
     private static void must() {
@@ -111,6 +132,10 @@ public final class WaysTest {
         y.sign(0, 1);
         Due.is("25: signed", y.must(1), 2);
         Due.is("25: signed by another one", y.must(0), 0);
+        y.step(-1, 0, 1);
+        y.rule(1, 1, 0);
+        y.person(0, 0, 0);
+        Due.is("25: one of two", y.must(0), 1);
     }
 
     private static void sly() {
@@ -215,6 +240,15 @@ public final class WaysTest {
         x.paper(1, 1, true);
         x.offer(0, 1);
         Due.is("31: too few", x.teach(), NONE);
+        WhoSigns y = office(1, 0);
+        Due.is("31: of one, without steps", y.teach(), 0);
+        y.step(-1, 0, 1);
+        Due.is("31: of one", y.teach(), NONE);
+        y.step(0, 0, 1);
+        y.person(0, 0, 0);
+        y.offer(0, 0);
+        y.offer(1, 0);
+        Due.is("31: all of them", y.teach(), 3);
         x.offer(2, 1);
         x.offer(1, 0);
         x.offer(2, 0);
