@@ -1396,7 +1396,7 @@ public final class WhoSigns {
         private final int[] manyLast = new int[RULES];
         private final int[] manyLeast = new int[RULES];
         private int manies = 0;
-        private int lastTied = -1;
+        private int pairedLater = 0;
         private final int[] who = new int[STEPS];
         private final int[] costs = new int[STEPS * PEOPLE];
         private final int[] costsToCome = new int[STEPS + 1];
@@ -1425,7 +1425,7 @@ public final class WhoSigns {
         private void readRules(Book book) {
             Arrays.fill(fits, -1);
             manies = 0;
-            lastTied = -1;
+            pairedLater = 0;
             for (int r = 0; r < book.rules; r++) {
                 Rule rule = book.laws[r];
                 if (rule.kind == MANY) {
@@ -1441,7 +1441,6 @@ public final class WhoSigns {
             manyLast[manies] = rule.lastStep();
             manyLeast[manies] = rule.n;
             manies++;
-            lastTied = Math.max(lastTied, rule.lastStep());
         }
 
         private void readPair(Rule rule, Person[] persons) {
@@ -1453,8 +1452,7 @@ public final class WhoSigns {
                     }
                 }
             }
-            // once the first of the two steps is given, who is left for the other one keeps the rule
-            lastTied = Math.max(lastTied, rule.firstStep());
+            pairedLater |= 1 << rule.firstStep();
         }
 
         private static int fitPlace(int step, int later, int person) {
@@ -1564,7 +1562,7 @@ public final class WhoSigns {
             }
         }
 
-        /** Gives a step to a person: whether the later steps can still find somebody, as far as is seen at once. */
+        /** Gives a step to a person and narrows who is left for the later ones: whether each has somebody left. */
         private boolean give(int step, int person) {
             who[step] = person;
             for (int later = step + 1; later < steps; later++) {
@@ -1574,57 +1572,82 @@ public final class WhoSigns {
                 }
                 left[(step + 1) * STEPS + later] = still;
             }
-            return areManyEnough(step);
-        }
-
-        private boolean isLeft(int step, int person) {
-            return (left[step * STEPS + step] >> person & 1) != 0;
-        }
-
-        private boolean areManyEnough(int step) {
-            for (int m = 0; m < manies; m++) {
-                if (manyFirst[m] <= step && step <= manyLast[m]) {
-                    int seen = 0;
-                    for (int s = manyFirst[m]; s <= step; s++) {
-                        seen |= 1 << who[s];
-                    }
-                    if (Integer.bitCount(seen) + manyLast[m] - step < manyLeast[m]) {
-                        return false;
-                    }
-                }
-            }
             return true;
         }
 
-        private boolean isAnyFrom(int step) {
-            if (step >= steps) {
+        /** Who is left for a step, as bits: only new ones, where MANY wants one from each step that is still to come. */
+        private int leftFor(int step) {
+            int bits = left[step * STEPS + step];
+            for (int m = 0; m < manies; m++) {
+                if (manyFirst[m] <= step && step <= manyLast[m]) {
+                    int seen = seenFrom(manyFirst[m], step);
+                    int lacking = manyLeast[m] - Integer.bitCount(seen);
+                    int toCome = manyLast[m] - step + 1;
+                    if (lacking > toCome) {
+                        return 0;
+                    }
+                    bits = lacking == toCome ? bits & ~seen : bits;
+                }
+            }
+            return bits;
+        }
+
+        private int seenFrom(int first, int step) {
+            int seen = 0;
+            for (int s = first; s < step; s++) {
+                seen |= 1 << who[s];
+            }
+            return seen;
+        }
+
+        /** Whether it makes a difference to the later steps who does this one (of those who are left for it). */
+        private boolean isTied(int step) {
+            if ((pairedLater >> step & 1) != 0) {
                 return true;
             }
-            for (int p = 0; p < people; p++) {
-                if (isLeft(step, p) && give(step, p) && isAnyFrom(step + 1)) {
+            for (int m = 0; m < manies; m++) {
+                if (manyFirst[m] <= step && step < manyLast[m]
+                        && Integer.bitCount(seenFrom(manyFirst[m], step)) < manyLeast[m]) {
                     return true;
                 }
             }
             return false;
         }
 
-        private int countFrom(int step) {
-            if (step >= steps || step > lastTied) {
-                return countUntied(step);
+        private boolean isAnyFrom(int step) {
+            if (step >= steps) {
+                return true;
             }
-            int all = 0;
+            int bits = leftFor(step);
+            boolean tied = isTied(step);
             for (int p = 0; p < people; p++) {
-                if (isLeft(step, p) && give(step, p)) {
-                    all += countFrom(step + 1);
+                if ((bits >> p & 1) != 0) {
+                    if (give(step, p) && isAnyFrom(step + 1)) {
+                        return true;
+                    }
+                    if (!tied) {
+                        return false;
+                    }
                 }
             }
-            return all;
+            return false;
         }
 
-        private int countUntied(int step) {
-            int all = 1;
-            for (int later = step; later < steps; later++) {
-                all *= Integer.bitCount(left[step * STEPS + later]);
+        private int countFrom(int step) {
+            if (step >= steps) {
+                return 1;
+            }
+            int bits = leftFor(step);
+            boolean tied = isTied(step);
+            int all = 0;
+            for (int p = 0; p < people; p++) {
+                if ((bits >> p & 1) != 0) {
+                    int behind = give(step, p) ? countFrom(step + 1) : 0;
+                    if (!tied) {
+                        return behind * Integer.bitCount(bits);
+                    }
+                    all += behind;
+                }
             }
             return all;
         }
@@ -1638,11 +1661,29 @@ public final class WhoSigns {
                 System.arraycopy(who, 0, found, 0, STEPS);
                 return;
             }
+            int bits = leftFor(step);
+            if (!isTied(step)) {
+                bits = firstCheapest(step, bits);
+            }
             for (int p = 0; p < people; p++) {
-                if (isLeft(step, p) && give(step, p)) {
+                if ((bits >> p & 1) != 0 && give(step, p)) {
                     lookForCheaper(step + 1, spent + costs[step * PEOPLE + p]);
                 }
             }
+        }
+
+        /** Of these the first with the least cost, as bits. */
+        private int firstCheapest(int step, int bits) {
+            int least = TOO_DEAR;
+            int cheapest = 0;
+            for (int p = 0; p < people; p++) {
+                int cost = costs[step * PEOPLE + p];
+                if ((bits >> p & 1) != 0 && cost < least) {
+                    least = cost;
+                    cheapest = 1 << p;
+                }
+            }
+            return cheapest;
         }
     }
 

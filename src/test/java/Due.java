@@ -49,6 +49,18 @@ final class Due {
         return x.text();
     }
 
+    /** People of ranks 0, 1, .. and steps of 10 minutes that want nothing. */
+    static WhoSigns office(int people, int steps) {
+        WhoSigns x = new WhoSigns();
+        for (int p = 0; p < people; p++) {
+            x.person(0, p, 0);
+        }
+        for (int s = 0; s < steps; s++) {
+            x.step(-1, 0, 10);
+        }
+        return x;
+    }
+
     static void end(String name) {
         System.out.println(name + ": " + asked + " answers, " + wrong + " wrong");
         System.exit(wrong == 0 ? 0 : 1);

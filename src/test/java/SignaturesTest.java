@@ -17,19 +17,8 @@ public final class SignaturesTest {
         Due.end("SignaturesTest");
     }
 
-    private static WhoSigns office(int people, int steps) {
-        WhoSigns x = new WhoSigns();
-        for (int p = 0; p < people; p++) {
-            x.person(0, p, 0);
-        }
-        for (int s = 0; s < steps; s++) {
-            x.step(-1, 0, 10);
-        }
-        return x;
-    }
-
     private static void sign() {
-        WhoSigns x = office(3, 3);
+        WhoSigns x = Due.office(3, 3);
         x.rule(1, 1, 0);
         Due.is("33: step 3", x.sign(3, 0), BAD);
         Due.is("33: step -1", x.sign(-1, 0), BAD);
@@ -49,7 +38,7 @@ public final class SignaturesTest {
         Due.is("33: open", x.stepTold(2, 3), NONE);
         x.drop(0);
         Due.is("33: three", x.sign(2, 0), 3);
-        WhoSigns y = office(2, 3);
+        WhoSigns y = Due.office(2, 3);
         y.rule(5, 2, 3);
         Due.is("33: many, some are open", y.sign(0, 0), 1);
         Due.is("33: many, some are open", y.sign(2, 0), 2);
@@ -57,7 +46,7 @@ public final class SignaturesTest {
     }
 
     private static void over() {
-        WhoSigns x = office(2, 3);
+        WhoSigns x = Due.office(2, 3);
         Due.is("34: none", x.over(), 0);
         x.sign(0, 0);
         x.sign(2, 1);
@@ -70,7 +59,7 @@ public final class SignaturesTest {
     }
 
     private static void judge() {
-        WhoSigns x = office(2, 2);
+        WhoSigns x = Due.office(2, 2);
         Due.is("35: no rules", x.judge(), NONE);
         x.sign(0, 0);
         x.sign(1, 0);
@@ -88,7 +77,7 @@ public final class SignaturesTest {
     }
 
     private static void queue() {
-        WhoSigns x = office(2, 3);
+        WhoSigns x = Due.office(2, 3);
         Due.is("36: what -2", x.queue(-2), BAD);
         Due.is("36: what 3", x.queue(3), BAD);
         Due.is("36: all", x.queue(-1), 3);
@@ -106,14 +95,14 @@ public final class SignaturesTest {
         Due.is("36: signed", x.queue(2), 0);
         Due.is("36: the rule is kept", x.queue(0), NONE);
         Due.is("36: two, a signed one too", x.queue(-1), 2);
-        Due.is("36: no steps", office(2, 0).queue(-1), 0);
-        Due.is("36: no steps", office(2, 0).queue(0), BAD);
-        Due.is("36: no people", office(0, 2).queue(-1), 0);
+        Due.is("36: no steps", Due.office(2, 0).queue(-1), 0);
+        Due.is("36: no steps", Due.office(2, 0).queue(0), BAD);
+        Due.is("36: no people", Due.office(0, 2).queue(-1), 0);
         broken();
     }
 
     private static void broken() {
-        WhoSigns x = office(2, 3);
+        WhoSigns x = Due.office(2, 3);
         x.sign(0, 0);
         x.sign(1, 1);
         x.rule(2, 1, 0);
@@ -121,7 +110,7 @@ public final class SignaturesTest {
     }
 
     private static void queueByWait() {
-        WhoSigns x = office(3, 3);
+        WhoSigns x = Due.office(3, 3);
         Due.text(x, "wait (9999-r)*(1-r)*9999*43");
         Due.is("36: wait wraps", x.personTold(0, 7), 9999 * 9999 * 43);
         Due.is("36: wait wraps", x.personTold(2, 7), -9997 * 9999 * 43);
@@ -167,7 +156,7 @@ public final class SignaturesTest {
     }
 
     private static void log() {
-        WhoSigns x = office(2, 1);
+        WhoSigns x = Due.office(2, 1);
         Due.is("37: none", x.log(0, 0), NONE);
         Due.is("37: i -1", x.log(-1, 0), BAD);
         Due.is("37: what 3", x.log(0, 3), BAD);
@@ -191,7 +180,7 @@ public final class SignaturesTest {
     }
 
     private static void logGoesOn() {
-        WhoSigns x = office(7, 6);
+        WhoSigns x = Due.office(7, 6);
         for (int k = 0; k < 50; k++) {
             x.sign(k % 6, k % 7);
             x.over();
@@ -206,7 +195,7 @@ public final class SignaturesTest {
     }
 
     private static void audit() {
-        WhoSigns x = office(2, 3);
+        WhoSigns x = Due.office(2, 3);
         Due.is("38: none", x.audit(-1), 0);
         Due.is("38: none", x.audit(0), NONE);
         Due.is("38: -2", x.audit(-2), BAD);
@@ -235,7 +224,7 @@ public final class SignaturesTest {
     }
 
     private static void luck() {
-        WhoSigns x = office(3, 2);
+        WhoSigns x = Due.office(3, 2);
         x.rule(1, 1, 0);
         Due.is("40: 0", x.luck(0), BAD);
         Due.is("40: 61", x.luck(61), BAD);
@@ -254,9 +243,9 @@ public final class SignaturesTest {
         }
         Due.is("40: 60", x.luck(60), lucky);
         Due.is("40: z goes on", x.count(11), z);
-        Due.is("40: without people", office(0, 0).luck(60), 60);
-        Due.is("40: without people", office(0, 1).luck(60), 0);
-        WhoSigns y = office(1, 1);
+        Due.is("40: without people", Due.office(0, 0).luck(60), 60);
+        Due.is("40: without people", Due.office(0, 1).luck(60), 0);
+        WhoSigns y = Due.office(1, 1);
         y.sign(0, 0);
         Due.is("40: signed", y.luck(60), 60);
     }

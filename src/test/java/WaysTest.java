@@ -16,22 +16,11 @@ public final class WaysTest {
         Due.end("WaysTest");
     }
 
-    private static WhoSigns office(int people, int steps) {
-        WhoSigns x = new WhoSigns();
-        for (int p = 0; p < people; p++) {
-            x.person(0, p, 0);
-        }
-        for (int s = 0; s < steps; s++) {
-            x.step(-1, 0, 10);
-        }
-        return x;
-    }
-
     private static void ways() {
-        Due.is("23: without steps", office(2, 0).ways(0), 1);
-        Due.is("23: without people", office(0, 2).ways(0), 0);
-        Due.is("23: all", office(7, 6).ways(999), 117649);
-        WhoSigns x = office(4, 4);
+        Due.is("23: without steps", Due.office(2, 0).ways(0), 1);
+        Due.is("23: without people", Due.office(0, 2).ways(0), 0);
+        Due.is("23: all", Due.office(7, 6).ways(999), 117649);
+        WhoSigns x = Due.office(4, 4);
         x.rule(1, 3, 0);
         Due.is("23: apart", x.ways(0), 192);
         x.rule(2, 12, 0);
@@ -47,7 +36,7 @@ public final class WaysTest {
         Due.is("23: another one is away", x.ways(0), 2);
         Due.is("23: day -1", x.ways(-1), BAD);
         Due.is("23: day 1000", x.ways(1000), BAD);
-        WhoSigns y = office(3, 2);
+        WhoSigns y = Due.office(3, 2);
         y.rule(4, 10, 1);
         Due.is("23: over", y.ways(0), 3);
         y.sign(1, 1);
@@ -58,7 +47,7 @@ public final class WaysTest {
     }
 
     private static void way() {
-        WhoSigns x = office(3, 3);
+        WhoSigns x = Due.office(3, 3);
         x.rule(1, 1, 0);
         x.rule(4, 2, 1);
         Due.is("24: first", x.way(0, 0), 0);
@@ -86,7 +75,7 @@ public final class WaysTest {
         Due.is("24: none", x.way(1, 1), NONE);
         Due.is("24: bad ahead of none", x.way(1, 3), BAD);
         cheapestAnew();
-        WhoSigns y = office(2, 6);
+        WhoSigns y = Due.office(2, 6);
         Due.text(y, "cost 9999");
         Due.is("24: the dearest", y.way(1, -1), 6 * 9999);
     }
@@ -96,23 +85,30 @@ public final class WaysTest {
         WhoSigns x = new WhoSigns();
         x.person(0, 5, 0);
         x.person(0, 1, 0);
+        x.person(0, 0, 0);
         x.step(-1, 0, 1);
+        x.step(-1, 0, 1);
+        x.rule(1, 1, 0);
         x.keep();
         x.step(-1, 0, 60);
-        x.step(-1, 0, 60);
+        x.rule(1, 12, 0);
         Due.text(x, "cost 999*m");
-        Due.is("24: dear", x.way(1, -1), 999 + 2 * 9999);
+        Due.is("24: dear", x.way(1, -1), 999 + 999 + 9999);
         Due.text(x, "cost r");
-        Due.is("24: cheap", x.way(1, -1), 3);
+        Due.is("24: cheap", x.way(1, -1), 1);
+        Due.is("24: cheap", x.way(1, 0), 2);
+        Due.is("24: cheap", x.way(1, 1), 1);
+        Due.is("24: cheap", x.way(1, 2), 2);
         Due.text(x, "cost 999*m");
-        Due.is("24: dear again", x.way(1, -1), 999 + 2 * 9999);
+        Due.is("24: dear again", x.way(1, -1), 999 + 999 + 9999);
         x.back();
-        Due.is("24: one step", x.way(1, -1), 2);
-        Due.is("24: one step", x.way(1, 0), 1);
+        Due.is("24: two steps", x.way(1, -1), 3);
+        Due.is("24: two steps", x.way(1, 0), 1);
+        Due.is("24: two steps", x.way(1, 1), 2);
     }
 
     private static void must() {
-        WhoSigns x = office(3, 2);
+        WhoSigns x = Due.office(3, 2);
         Due.is("25: in some", x.must(0), 1);
         x.step(-1, 2, 1);
         Due.is("25: in each", x.must(2), 2);
@@ -126,7 +122,7 @@ public final class WaysTest {
         Due.is("25: person -1", x.must(-1), BAD);
         x.away(2, 0, 0);
         Due.is("25: no way", x.must(0), 0);
-        WhoSigns y = office(2, 0);
+        WhoSigns y = Due.office(2, 0);
         Due.is("25: without steps", y.must(0), 0);
         y.step(-1, 0, 1);
         y.sign(0, 1);
@@ -139,7 +135,7 @@ public final class WaysTest {
     }
 
     private static void sly() {
-        WhoSigns x = office(3, 4);
+        WhoSigns x = Due.office(3, 4);
         Due.is("26: all", x.sly(1), 4);
         x.rule(1, 1, 0);
         Due.is("26: apart", x.sly(1), 3);
@@ -153,11 +149,11 @@ public final class WaysTest {
         x.away(1, 0, 0);
         Due.is("26: no way", x.sly(2), NONE);
         Due.is("26: bad ahead of none", x.sly(-1), BAD);
-        Due.is("26: without steps", office(1, 0).sly(0), 0);
+        Due.is("26: without steps", Due.office(1, 0).sly(0), 0);
     }
 
     private static void missing() {
-        WhoSigns x = office(3, 2);
+        WhoSigns x = Due.office(3, 2);
         Due.is("27: all", x.missing(), 7);
         x.rule(1, 1, 0);
         Due.is("27: two, the least as bits", x.missing(), 3);
@@ -171,9 +167,9 @@ public final class WaysTest {
         Due.is("27: all is signed", x.missing(), NONE);
         x.rule(2, 1, 0);
         Due.is("27: no way as it is", x.missing(), NO);
-        Due.is("27: without steps", office(3, 0).missing(), NONE);
-        Due.is("27: without people", office(0, 1).missing(), NO);
-        Due.is("27: without all", office(0, 0).missing(), NONE);
+        Due.is("27: without steps", Due.office(3, 0).missing(), NONE);
+        Due.is("27: without people", Due.office(0, 1).missing(), NO);
+        Due.is("27: without all", Due.office(0, 0).missing(), NONE);
         standingForOneWhoIsMissing();
     }
 
@@ -188,7 +184,7 @@ public final class WaysTest {
     }
 
     private static void bears() {
-        WhoSigns x = office(3, 2);
+        WhoSigns x = Due.office(3, 2);
         x.rule(1, 1, 0);
         Due.is("28: 0", x.bears(0), 1);
         Due.is("28: 1", x.bears(1), 1);
@@ -201,16 +197,16 @@ public final class WaysTest {
         Due.is("28: all is signed", x.bears(3), 1);
         x.turns(0, 2);
         Due.is("28: no way", x.bears(0), 0);
-        WhoSigns y = office(7, 1);
+        WhoSigns y = Due.office(7, 1);
         Due.is("28: 6 of 7", y.bears(6), 1);
         Due.is("28: 7 of 7", y.bears(7), 0);
         Due.is("28: 8", y.bears(8), BAD);
-        Due.is("28: 0 of none", office(0, 0).bears(0), 1);
-        Due.is("28: 1 of none", office(0, 0).bears(1), BAD);
+        Due.is("28: 0 of none", Due.office(0, 0).bears(0), 1);
+        Due.is("28: 1 of none", Due.office(0, 0).bears(1), BAD);
     }
 
     private static void offers() {
-        WhoSigns x = office(2, 0);
+        WhoSigns x = Due.office(2, 0);
         Due.is("29: person 2", x.offer(2, 0), BAD);
         Due.is("29: person -1", x.offer(-1, 0), BAD);
         Due.is("29: paper 8", x.offer(0, 8), BAD);
@@ -240,7 +236,7 @@ public final class WaysTest {
         x.paper(1, 1, true);
         x.offer(0, 1);
         Due.is("31: too few", x.teach(), NONE);
-        WhoSigns y = office(1, 0);
+        WhoSigns y = Due.office(1, 0);
         Due.is("31: of one, without steps", y.teach(), 0);
         y.step(-1, 0, 1);
         Due.is("31: of one", y.teach(), NONE);
@@ -263,7 +259,7 @@ public final class WaysTest {
     }
 
     private static void teachOneWhoIsAway() {
-        WhoSigns x = office(3, 0);
+        WhoSigns x = Due.office(3, 0);
         x.step(4, 0, 1);
         x.away(2, 0, 0);
         x.stand(0, 2, 0);
@@ -275,7 +271,7 @@ public final class WaysTest {
     }
 
     private static void soon() {
-        WhoSigns x = office(1, 1);
+        WhoSigns x = Due.office(1, 1);
         Due.is("32: today", x.soon(), 0);
         x.away(0, 0, 58);
         Due.is("32: the 60th", x.soon(), 59);
@@ -290,7 +286,7 @@ public final class WaysTest {
         Due.is("32: the last day", x.soon(), 999);
         x.away(0, 0, 999);
         Due.is("32: no day behind 999", x.soon(), NONE);
-        Due.is("32: without steps", office(0, 0).soon(), 0);
-        Due.is("32: without people", office(0, 1).soon(), NONE);
+        Due.is("32: without steps", Due.office(0, 0).soon(), 0);
+        Due.is("32: without people", Due.office(0, 1).soon(), NONE);
     }
 }
