@@ -382,8 +382,8 @@ public final class WhoSigns {
     public int soon() {
         int last = Math.min(book.day + 59, LAST_DAY);
         for (int day = book.day; day <= last; day++) {
-            finder.open(book, day);
-            if (finder.isAny(0)) {
+            boolean sameAsBefore = finder.open(book, day);
+            if ((day == book.day || !sameAsBefore) && finder.isAny(0)) {
                 return day;
             }
         }
@@ -892,7 +892,7 @@ public final class WhoSigns {
 
     /** A text as its pieces and signs, each sign behind what it joins. */
     private static final class Text {
-        static final int NOT = -33, NAMES = -6;
+        static final int NOT = -33, BELOW_NAMES = -6;
 
         final int key;
         final int pieces;
@@ -909,7 +909,7 @@ public final class WhoSigns {
             int top = 0;
             for (int at = 0; at < code.length; at++) {
                 int sign = code[at];
-                if (sign > NAMES) {
+                if (sign > BELOW_NAMES) {
                     if (top < stack.length) {
                         stack[top] = sign >= 0 ? sign : valueOf(-1 - sign, given);
                         top++;
