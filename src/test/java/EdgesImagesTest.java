@@ -163,6 +163,34 @@ public final class EdgesImagesTest {
         x.sign(0, 0);
         x.keep();
         checked("signed, and by a text", x, 5, 0, 1, 0, 0, 0, 1);
+        checksAllOfPeople();
+    }
+
+    /** What a kept person is like counts: office, rank, kin, papers, standing. */
+    private static void checksAllOfPeople() {
+        WhoSigns x = new WhoSigns();
+        x.person(3, 5, 7);
+        x.person(4, 4, 7);
+        x.person(4, 9, 1);
+        x.step(6, 5, 1);
+        x.step(-1, 0, 1);
+        x.paper(1, 6, true);
+        x.paper(2, 6, true);
+        x.stand(0, 2, 3);
+        x.away(2, 2, 4);
+        x.rule(3, 1, 0);
+        Due.text(x, "may k=0|o=4");
+        x.keep();
+        for (int p = 0; p < 3; p++) {
+            x.paper(p, 6, false);
+            x.stand(p, -1, 0);
+            x.away(p, 0, 999);
+        }
+        checked("step 0 by 2, by 0 for 2, by none, by 2", x, 6, 0, 1, 1, 0, 0, 0, 1);
+        x.back();
+        x.turns(0, 0);
+        x.keep();
+        checked("kin does not count", x, 6, 0, 2, 2, 1, 1, 0, 2);
     }
 
     /** 50: (none do then, whatever is answered). */
@@ -279,6 +307,9 @@ public final class EdgesImagesTest {
             o.turns(0, 5);
             o.drop(1);
             o.offer(3, 3);
+            o.clear();
+            o.offer(2, 1);
+            o.offer(2, 2);
             o.sign(1, 2);
             o.over();
             o.days(7);

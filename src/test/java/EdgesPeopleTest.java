@@ -406,6 +406,11 @@ public final class EdgesPeopleTest {
             FULL_ONE.refuses("8: step " + v, BAD, o -> o.stepTold(v, 0));
             FULL_ONE.refuses("11: step " + v, BAD, o -> o.cost(0, v));
         }
+        WhoSigns signed = Due.office(7, 2);
+        signed.sign(0, 0);
+        signed.sign(1, 6);
+        Due.is("8: signed by the first", signed.stepTold(0, 3), 0);
+        Due.is("8: signed by the last", signed.stepTold(1, 3), 6);
         Due.is("8: nobody may, nobody is there", Due.office(0, 1).stepTold(0, 4), 0);
         WhoSigns x = Due.office(7, 1);
         Due.is("8: all may", x.stepTold(0, 4), 7);

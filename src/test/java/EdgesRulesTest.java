@@ -254,6 +254,14 @@ public final class EdgesRulesTest {
             }
             Due.is("35: the first that asks for four", x.judge(), 4);
         }
+        WhoSigns some = Due.office(3, 5);
+        some.rule(MANY, 13, 3);
+        Due.is("23: three for 1 .. 3", some.ways(0), 9 * 6);
+        some.turns(0, RULE);
+        some.rule(MANY, 42, 3);
+        Due.is("23: three for 2 .. 4", some.ways(0), 9 * 6);
+        some.turns(0, MANY);
+        Due.is("23: three for 1 .. 3 and for 2 .. 4", some.ways(0), 3 * 6);
         WhoSigns all = Due.office(6, 6);
         all.rule(MANY, 50, 6);
         Due.is("23: six of six", all.ways(0), 720);

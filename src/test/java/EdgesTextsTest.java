@@ -202,8 +202,10 @@ public final class EdgesTextsTest {
             fault(key + " ", key.length() + 1);
             fault(key.substring(1) + " 1", 0);
             fault(key.substring(0, key.length() - 1) + " 1", 0);
-            fault(key + "s 1", 0);
-            fault("x" + key + " 1", 0);
+            for (char letter = 'a'; letter <= 'z'; letter++) {
+                fault(key + letter + " 1", 0);
+                fault(letter + key + " 1", 0);
+            }
             fault(key.toUpperCase() + " 1", 0);
             fault(key + " " + key, key.length() + 1);
             fault(key + key + " 1", 0);
@@ -552,6 +554,7 @@ public final class EdgesTextsTest {
             Due.is("22: none at first", x.why(key), NONE);
         }
         Due.text(x, "wait 5");
+        Due.is("22: text 0", x.why(2), 0);
         Due.text(x, "wait 6");
         Due.is("22: text 1", x.why(2), 1);
         Due.is("22: it counts", x.personTold(0, 7), 6);
