@@ -7,6 +7,7 @@ public final class EdgesRulesTest {
 
     public static void main(String[] args) {
         twelveRules();
+        twelveOfOneKind();
         roomAfterDrop();
         kindsOfRules();
         unlikeSteps();
@@ -50,6 +51,25 @@ public final class EdgesRulesTest {
         FULL_ONE.refuses("12: BAD stands ahead of FULL, kind", BAD, o -> o.rule(6, 1, 0));
         FULL_ONE.refuses("12: BAD stands ahead of FULL, steps", BAD, o -> o.rule(0, 11, 0));
         FULL_ONE.refuses("12: BAD stands ahead of FULL, n", BAD, o -> o.rule(0, 1, 10));
+    }
+
+    /** 12: RULES, 12 at most, of one KIND all. */
+    private static void twelveOfOneKind() {
+        int[] ways = {729, 486, 243, 486, 243, 486};
+        for (int kind = 0; kind <= 5; kind++) {
+            WhoSigns x = Due.office(3, 6);
+            for (int r = 0; r < 12; r++) {
+                x.rule(kind, r % 2 == 0 || kind == OVER ? 34 : 43, kind == OVER ? 1 : 2);
+            }
+            Due.is("12: full", x.rule(kind, 34, 2), FULL);
+            Due.is("23: ways with twelve of kind " + kind, x.ways(0), ways[kind]);
+            Due.is("24: a way", x.way(1, 0), 0);
+            Due.is("35: none is broken", x.judge(), NONE);
+            Due.is("36: all is done", x.queue(-1), 6);
+            for (int r = 0; r < 12; r++) {
+                Due.is("17: kept by none alone", x.keeps(r, 1, 1), kind == RULE || kind == SAME ? 1 : 0);
+            }
+        }
     }
 
     /** 12 and 16: a RULE goes, and another one has room. */

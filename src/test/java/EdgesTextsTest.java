@@ -435,6 +435,10 @@ public final class EdgesTextsTest {
         Due.is("21: forty-six numbers", x.textTold(1, 1), 46);
         Due.text(x, "wait " + "!0+".repeat(30) + "7");
         Due.is("20: thirty and seven", x.personTold(0, 7), 37);
+        for (int levels = 0; levels <= 7; levels++) {
+            Due.text(x, "wait " + "0|1&1=1+1*(".repeat(levels) + "0" + ")".repeat(levels));
+            Due.is("20: deep through all signs, " + levels, x.personTold(0, 7), levels % 2);
+        }
         Due.text(x, "wait 1+2*(3+4*(5+6*(7+8*(9+1*(2+3*(4+5*(6+7*8)))))))");
         Due.is("20: deep to the right", x.personTold(0, 7), 1 + 2 * (3 + 4 * (5 + 6 * (7 + 8 * (9 + 1 * (2 + 3 * (4 + 5 * (6 + 7 * 8))))))));
     }
