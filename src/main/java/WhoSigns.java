@@ -369,6 +369,10 @@ public final class WhoSigns {
             return 0;
         }
         int sets = 1 << book.offers;
+        // more papers never take a way away: what all of them cannot do, no fewer can
+        if (!isTaughtEnough(sets - 1)) {
+            return NONE;
+        }
         for (int size = 0; size <= book.offers; size++) {
             for (int set = 0; set < sets; set++) {
                 if (Integer.bitCount(set) == size && isTaughtEnough(set)) {
