@@ -483,9 +483,12 @@ public final class WhoSigns {
             return BAD;
         }
         finder.open(book, book.day);
+        // those who are missing never add a way: where there is none, no trial is lucky, but all are drawn
+        boolean isAnyAtAll = finder.isAny(0);
         int lucky = 0;
         for (int trial = 0; trial < m; trial++) {
-            lucky += oneIf(finder.isAny(book.drawMissing()));
+            int missing = book.drawMissing();
+            lucky += oneIf(isAnyAtAll && finder.isAny(missing));
         }
         return lucky;
     }
